@@ -638,7 +638,7 @@ public final class ClearingWaves {
 
     private Coins coined() {
         if (coinsAreOld) {
-            wholeCoins.run();
+            wholeCoins.walk();
             coinsAreOld = false;
         }
         return wholeCoins;
@@ -1289,7 +1289,7 @@ public final class ClearingWaves {
             this.book = book;
         }
 
-        void run() {
+        void walk() {
             System.arraycopy(book.debts, 0, paidNow, 0, paidNow.length);
             changes = 0;
             for (int step = 0; step < STEPS; step++) {
@@ -1531,7 +1531,7 @@ public final class ClearingWaves {
         }
 
         private boolean agrees(Book book, int house) {
-            long income = income(book, house);
+            long income = incomeByTold(book, house);
             boolean fails = below * book.cash[house] + income < below * book.dueOf(house);
             long rest = below * book.ofCash * book.cash[house] + book.ofIncome * income;
             for (int cls = 0; cls < CLASSES; cls++) {
@@ -1546,7 +1546,7 @@ public final class ClearingWaves {
             return true;
         }
 
-        private long income(Book book, int house) {
+        private long incomeByTold(Book book, int house) {
             long sum = 0;
             for (int from = 0; from < book.n; from++) {
                 for (int cls = 0; cls < CLASSES; cls++) {

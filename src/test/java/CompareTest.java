@@ -1,3 +1,4 @@
+import java.math.BigInteger;
 import java.util.Random;
 
 /** Runs of drawn calls on the program and on the oracle; the same seeds draw the same calls. */
@@ -91,6 +92,114 @@ public final class CompareTest {
                 }
             }
         }
+    }
+
+    // Great debts in few classes: numbers below the line grow up to 10^14.
+    private void tellHeavy() {
+        same("houses(5)", x.houses(5), o.houses(5));
+        int a = upTo(10);
+        int b = 10 - upTo(3);
+        same("costs(" + a + ", " + b + ")", x.costs(a, b), o.costs(a, b));
+        for (int h = 0; h < 5; h++) {
+            int v = upTo(9);
+            same("cash(" + h + ", " + v + ")", x.cash(h, v), o.cash(h, v));
+            int heavy = random.nextInt(4) == 0 ? upTo(2) : 0;
+            for (int to = 0; to < 5; to++) {
+                for (int cls = 0; cls < 3 && h != to; cls++) {
+                    int w = cls == heavy ? 20 - upTo(5) : upTo(random.nextInt(3) == 0 ? 6 : 0);
+                    same("owe(" + h + ", " + to + ", " + cls + ", " + w + ")", x.owe(h, to, cls, w), o.owe(h, to, cls, w));
+                }
+            }
+        }
+        int last = upTo(2);
+        same("owe(" + 0 + ", 1, " + last + ", 20)", x.owe(0, 1, last, 20), o.owe(0, 1, last, 20));
+    }
+
+    // Round numbers without costs: rings that lose nothing, rests that end where a class ends.
+    private void tellTight() {
+        int n = 3 + upTo(2);
+        int unit = 1 + upTo(4);
+        same("houses(" + n + ")", x.houses(n), o.houses(n));
+        int a = random.nextInt(3) == 0 ? upTo(10) : 10;
+        same("costs(" + a + ", 10)", x.costs(a, 10), o.costs(a, 10));
+        for (int h = 0; h < n; h++) {
+            int v = random.nextInt(3) == 0 ? unit * upTo(2) : 0;
+            same("cash(" + h + ", " + v + ")", x.cash(h, v), o.cash(h, v));
+            for (int cls = 0; cls < 3; cls++) {
+                for (int time = 0; time <= upTo(cls == 0 ? 1 : 2); time++) {
+                    int to = (h + 1 + upTo(n - 2)) % n;
+                    int w = unit * upTo(3);
+                    same("owe(" + h + ", " + to + ", " + cls + ", " + w + ")", x.owe(h, to, cls, w), o.owe(h, to, cls, w));
+                }
+            }
+        }
+    }
+
+    // Rings of equal debts that feed nobody else in their class, and debts behind them that fail
+    // their houses: rings that hold whole, wave by wave, while others fall.
+    private void tellRings() {
+        int n = 4 + upTo(1);
+        same("houses(" + n + ")", x.houses(n), o.houses(n));
+        int a = random.nextBoolean() ? 10 : upTo(10);
+        int b = random.nextInt(4) == 0 ? 9 : 10;
+        same("costs(" + a + ", " + b + ")", x.costs(a, b), o.costs(a, b));
+        for (int cls = 0; cls < 3; cls++) {
+            int first = upTo(n - 1);
+            int many = random.nextInt(3) == 0 ? 0 : 2 + upTo(n - 2);
+            int w = 1 + upTo(9);
+            for (int k = 0; k < many; k++) {
+                int from = (first + k) % n;
+                int to = (first + (k + 1) % many) % n;
+                int v = random.nextInt(12) == 0 ? w + 1 : w;
+                same("owe(" + from + ", " + to + ", " + cls + ", " + v + ")", x.owe(from, to, cls, v), o.owe(from, to, cls, v));
+            }
+        }
+        for (int h = 0; h < n; h++) {
+            int v = random.nextInt(4) == 0 ? upTo(12) : 0;
+            same("cash(" + h + ", " + v + ")", x.cash(h, v), o.cash(h, v));
+            if (random.nextBoolean()) {
+                int to = (h + 1 + upTo(n - 2)) % n;
+                int cls = upTo(2);
+                int w = 1 + upTo(9);
+                same("owe(" + h + ", " + to + ", " + cls + ", " + w + ")", x.owe(h, to, cls, w), o.owe(h, to, cls, w));
+            }
+        }
+    }
+
+    // Units by which a product or a sum comes just to the end of a long, or one beyond it.
+    private void fundEdge() {
+        int fund = upTo(2);
+        for (int k = 0; k < 3 * o.n; k++) {
+            int h = k / 3;
+            int c = k % 3;
+            same("units(" + fund + ", " + h + ", " + c + ", 0L)", x.units(fund, h, c, 0), o.units(fund, h, c, 0));
+        }
+        int first = upTo(3 * o.n - 2);
+        int second = first + 1 + upTo(3 * o.n - 2 - first);
+        long few = random.nextInt(3) == 0 ? 0 : 1 + upTo(1000);
+        setUnits(fund, first, few);
+        Oracle.Frac worth = o.worth(fund);
+        Oracle.Frac part = o.now().last()[second / 3][second % 3];
+        if (worth == null || part.isZero()) {
+            return;
+        }
+        BigInteger end = BigInteger.valueOf(Long.MAX_VALUE);
+        if (random.nextBoolean()) {
+            end = end.subtract(worth.p.multiply(part.q));
+        }
+        BigInteger u = end.divide(part.p).divide(worth.q).add(BigInteger.valueOf(upTo(2) - 1));
+        if (u.signum() > 0 && u.bitLength() < 63) {
+            setUnits(fund, second, u.longValue());
+            same("told(" + fund + ")", x.told(fund), o.told(fund));
+            same("fund(" + fund + ", 0)", x.fund(fund, 0), o.fund(fund, 0));
+            same("fund(" + fund + ", 1)", x.fund(fund, 1), o.fund(fund, 1));
+            same("best()", x.best(), o.best());
+        }
+    }
+
+    private void setUnits(int fund, int k, long u) {
+        same("units(" + fund + ", " + k / 3 + ", " + k % 3 + ", " + u + "L)",
+            x.units(fund, k / 3, k % 3, u), o.units(fund, k / 3, k % 3, u));
     }
 
     private void askAll() {
@@ -414,11 +523,21 @@ public final class CompareTest {
             case 3:
                 tellAll(200, 20, 100);
                 break;
-            default:
+            case 4:
                 tellAll(60, 20, 80);
+                break;
+            case 5:
+                tellHeavy();
+                break;
+            case 6:
+                tellTight();
+                break;
+            default:
+                tellRings();
                 break;
         }
         askAll();
+        fundEdge();
         for (int k = 0; k < 60; k++) {
             int draw = random.nextInt(20);
             if (draw < 6) {
@@ -434,18 +553,18 @@ public final class CompareTest {
     }
 
     public static void main(String[] args) {
-        int runs = args.length > 0 ? Integer.parseInt(args[0]) : 400;
+        int runs = args.length > 0 ? Integer.parseInt(args[0]) : 1600;
         long seed = args.length > 1 ? Long.parseLong(args[1]) : 1;
         int passed = 0;
         int failed = 0;
         for (int k = 0; k < runs; k++) {
             trace.setLength(0);
             try {
-                new CompareTest(seed + k).run(k % 5);
+                new CompareTest(seed + k).run(k % 8);
                 passed++;
             } catch (RuntimeException e) {
                 failed++;
-                System.out.println("seed " + (seed + k) + ", kind " + k % 5 + ": " + e);
+                System.out.println("seed " + (seed + k) + ", kind " + k % 8 + ": " + e);
                 if (failed == 1) {
                     System.out.print(trace);
                 }

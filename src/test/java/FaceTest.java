@@ -1,0 +1,257 @@
+import java.lang.management.ManagementFactory;
+import java.lang.reflect.Constructor;
+import java.lang.reflect.Field;
+import java.lang.reflect.Method;
+import java.lang.reflect.Modifier;
+import java.nio.charset.StandardCharsets;
+import java.nio.file.Files;
+import java.nio.file.Path;
+import java.util.ArrayList;
+import java.util.HashMap;
+import java.util.HashSet;
+import java.util.List;
+import java.util.Map;
+import java.util.Set;
+import java.util.TreeSet;
+import java.util.regex.Matcher;
+import java.util.regex.Pattern;
+
+/** The document's face, the rules of LANGUAGE.md that a text shows, and the room of a run. */
+public final class FaceTest {
+    private static final Path SOURCE = Path.of("src/main/java/ClearingWaves.java");
+    private static final Path DOCUMENT = Path.of("../shared/DOC.md");
+    private static int passed;
+    private static int failed;
+
+    private static void check(String name, Object got, Object want) {
+        if (got.equals(want)) {
+            passed++;
+        } else {
+            failed++;
+            System.out.println("FAILED " + name + ": " + got + ", due is " + want);
+        }
+    }
+
+    private static void face() throws Exception {
+        String text = Files.readString(DOCUMENT);
+        String block = text.substring(text.indexOf("```java"), text.indexOf("}\n```"));
+        Set<String> want = new TreeSet<>();
+        Matcher m = Pattern.compile("public (int|long) (\\w+)\\((.*?)\\);").matcher(block);
+        while (m.find()) {
+            String types = m.group(3).replaceAll(" \\w+(,|$)", "$1").replace(" ", "");
+            want.add(m.group(1) + " " + m.group(2) + "(" + types + ")");
+        }
+        Set<String> got = new TreeSet<>();
+        Set<String> names = new HashSet<>();
+        for (Method one : ClearingWaves.class.getDeclaredMethods()) {
+            if (Modifier.isPublic(one.getModifiers())) {
+                List<String> types = new ArrayList<>();
+                for (Class<?> type : one.getParameterTypes()) {
+                    types.add(type.getName());
+                }
+                got.add(one.getReturnType() + " " + one.getName() + "(" + String.join(",", types) + ")");
+                names.add(one.getName());
+            }
+        }
+        check("methods of the face", got, want);
+        check("methods in all", want.size(), 54);
+        Set<String> others = new TreeSet<>();
+        for (Method one : ClearingWaves.class.getDeclaredMethods()) {
+            int how = one.getModifiers();
+            if (!Modifier.isPublic(how) && (!Modifier.isPrivate(how) || names.contains(one.getName()))) {
+                others.add(one.getName());
+            }
+        }
+        Set<String> fields = new TreeSet<>();
+        for (Field one : ClearingWaves.class.getDeclaredFields()) {
+            if (!Modifier.isPrivate(one.getModifiers())) {
+                fields.add(one.getName());
+            }
+        }
+        check("constants", fields, new TreeSet<>(Set.of("NONE", "BAD", "STATE", "FULL", "OVER", "NO")));
+        for (Class<?> inside : ClearingWaves.class.getDeclaredClasses()) {
+            if (!Modifier.isStatic(inside.getModifiers()) || Modifier.isPublic(inside.getModifiers())) {
+                others.add(inside.getName());
+            }
+            for (Method one : inside.getDeclaredMethods()) {
+                if (names.contains(one.getName())) {
+                    others.add(inside.getSimpleName() + "." + one.getName());
+                }
+            }
+        }
+        check("other members", others, Set.of());
+        Constructor<?>[] made = ClearingWaves.class.getDeclaredConstructors();
+        check("constructors", made.length + " " + made[0], "1 public ClearingWaves()");
+        check("final", Modifier.isFinal(ClearingWaves.class.getModifiers()), true);
+        check("classes", ClearingWaves.class.getDeclaredClasses().length <= 11, true);
+    }
+
+    private static String bare() throws Exception {
+        String text = Files.readString(SOURCE, StandardCharsets.UTF_8);
+        text = text.replaceAll("(?s)/\\*.*?\\*/", "").replaceAll("//[^\n]*", "");
+        return text.replaceAll("'(\\\\.|[^'\\\\])'", "'c'").replaceAll("\"(\\\\.|[^\"\\\\])*\"", "\"\"");
+    }
+
+    private static void words() throws Exception {
+        String text = bare();
+        Set<String> found = new TreeSet<>();
+        String[] never = {"throw", "throws", "try", "catch", "finally", "synchronized", "assert", "import",
+            "package", "volatile", "native", "protected", "instanceof", "equals", "hashCode", "toString",
+            "Exception", "Error", "Object", "Thread", "Random", "var", "yield", "goto", "strictfp", "transient",
+            "double", "float", "String", "NaN", "exit", "out", "println", "currentTimeMillis", "nanoTime"};
+        for (String word : never) {
+            if (Pattern.compile("\\b" + word + "\\b").matcher(text).find()) {
+                found.add(word);
+            }
+        }
+        for (String sign : new String[] {"->", "::", "\"", "@", "static {", "while (true)", "for (;;)"}) {
+            if (text.contains(sign)) {
+                found.add(sign);
+            }
+        }
+        check("words that don't belong there", found, Set.of());
+        Set<String> library = new TreeSet<>();
+        Matcher m = Pattern.compile("\\b(System|Math|Integer|Long|Arrays)\\.(\\w+)").matcher(text);
+        while (m.find()) {
+            library.add(m.group());
+        }
+        library.removeAll(Set.of("System.arraycopy", "Math.min", "Math.max", "Integer.bitCount",
+            "Integer.compare", "Long.MIN_VALUE"));
+        check("library", library, Set.of());
+        check("signs", text.chars().allMatch(c -> c < 127), true);
+        Set<String> statics = new TreeSet<>();
+        m = Pattern.compile("static (?!final)[\\w\\[\\]]+ \\w+ *[;=,]").matcher(text);
+        while (m.find()) {
+            statics.add(m.group());
+        }
+        check("static fields are final", statics, Set.of());
+    }
+
+    // Methods, their lines and parameters, and what each calls of its own file.
+    private static void sizes() throws Exception {
+        String text = bare();
+        String head = "(?m)^ +((?:public|private|static|final) )*[\\w\\[\\]]+ ?(\\w*)\\(([^()]*)\\) \\{$";
+        Matcher m = Pattern.compile(head).matcher(text);
+        Set<String> wrong = new TreeSet<>();
+        Map<String, Set<String>> calls = new HashMap<>();
+        List<String> names = new ArrayList<>();
+        List<String> bodies = new ArrayList<>();
+        while (m.find()) {
+            if (m.group().matches("(?s) +(if|for|while|switch|else|do).*")) {
+                continue;
+            }
+            int depth = 0;
+            int end = m.end() - 1;
+            do {
+                char sign = text.charAt(end);
+                depth += sign == '{' ? 1 : sign == '}' ? -1 : 0;
+                end++;
+            } while (depth > 0);
+            String body = text.substring(m.end(), end);
+            names.add(m.group(2));
+            bodies.add(body);
+            if (body.lines().count() > 60) {
+                wrong.add(m.group(2) + " is too long");
+            }
+            if (m.group(3).split(",").length > 7) {
+                wrong.add(m.group(2) + " has too many parameters");
+            }
+        }
+        check("methods found", names.size() > 120, true);
+        check("sizes", wrong, Set.of());
+        Matcher loops = Pattern.compile("\\b(while|do)\\b").matcher(text);
+        int many = 0;
+        while (loops.find()) {
+            many++;
+        }
+        check("loops that are looked at one by one", many, 2);
+        for (int k = 0; k < names.size(); k++) {
+            Set<String> mine = calls.computeIfAbsent(names.get(k), x -> new HashSet<>());
+            Matcher call = Pattern.compile("\\b(\\w+)\\(").matcher(bodies.get(k));
+            while (call.find()) {
+                if (names.contains(call.group(1)) && !call.group(1).equals(names.get(k))) {
+                    mine.add(call.group(1));
+                }
+            }
+        }
+        // By names alone, so that two methods of one name count as one: never less than it is.
+        List<String> deepest = List.of();
+        for (String name : names) {
+            List<String> path = deepest(calls, name, 0);
+            deepest = path.size() > deepest.size() ? path : deepest;
+        }
+        check("calls at most eight deep: " + deepest, deepest.size() <= 8, true);
+    }
+
+    private static List<String> deepest(Map<String, Set<String>> calls, String name, int open) {
+        List<String> deepest = new ArrayList<>();
+        for (String next : calls.getOrDefault(name, Set.of())) {
+            if (open < 30) {
+                List<String> path = deepest(calls, next, open + 1);
+                deepest = path.size() > deepest.size() ? path : deepest;
+            }
+        }
+        deepest.add(0, name);
+        return deepest;
+    }
+
+    private static long madeBy(Runnable body) {
+        com.sun.management.ThreadMXBean bean = (com.sun.management.ThreadMXBean) ManagementFactory.getThreadMXBean();
+        long id = Thread.currentThread().getId();
+        long before = bean.getThreadAllocatedBytes(id);
+        body.run();
+        return bean.getThreadAllocatedBytes(id) - before;
+    }
+
+    private static long sum;
+
+    private static void room() {
+        ClearingWaves x = new ClearingWaves();
+        Runnable most = () -> {
+            for (int time = 0; time < 20; time++) {
+                use(x);
+            }
+        };
+        madeBy(most);
+        long made = madeBy(most);
+        // 2000 calls and more: not even 16 bytes each, the measuring itself included.
+        check("calls make nothing, not " + made + " bytes", made < 32000, true);
+        long one = madeBy(() -> sum += new ClearingWaves().count(0));
+        check("an object is small, not " + one + " bytes", one < 40000, true);
+    }
+
+    private static void use(ClearingWaves x) {
+        x.houses(5);
+        for (int from = 0; from < 5; from++) {
+            for (int to = 0; to < 5; to++) {
+                for (int cls = 0; cls < 3; cls++) {
+                    x.owe(from, to, cls, 20 - cls - (from + to) % 3);
+                }
+            }
+            x.cash(from, 3 + from);
+            x.units(0, from, 0, 5);
+        }
+        x.costs(9, 9);
+        x.row(0, 20);
+        x.image();
+        for (int house = 0; house < 5; house++) {
+            sum += x.needs(house, 0) + x.calms(house) + x.danger() + x.saves(9, 1) + x.rescue(0, 0, 30, 6, 0);
+            sum += x.pulls(house) + x.root(house) + x.cause(house) + x.lacks(house, 0, 0) + x.gets(house, 1);
+        }
+        sum += x.spell() + x.steps() + x.gone() + x.coinFails() + x.lay(0, 0) + x.judge(0, 0) + x.told(0);
+        sum += x.best() + x.fund(0, 1) + x.net(0) + x.ring(1, 1) + x.undo() + x.row(1, 20) + x.all(2, 0);
+        x.feed('a');
+        x.feed('=');
+        x.feed('9');
+        sum += x.read();
+    }
+
+    public static void main(String[] args) throws Exception {
+        face();
+        words();
+        sizes();
+        room();
+        System.out.println(passed + " passed, " + failed + " failed");
+        System.exit(failed == 0 ? 0 : 1);
+    }
+}
