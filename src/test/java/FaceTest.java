@@ -195,6 +195,40 @@ public final class FaceTest {
         return deepest;
     }
 
+    // Drawn calls with drawn arguments, far off ones among them, as long as an object is used.
+    private static void neverThrows() throws Exception {
+        java.util.Random random = new java.util.Random(7);
+        List<Method> calls = new ArrayList<>();
+        for (Method one : ClearingWaves.class.getDeclaredMethods()) {
+            if (Modifier.isPublic(one.getModifiers())) {
+                calls.add(one);
+            }
+        }
+        calls.sort((a, b) -> a.getName().compareTo(b.getName()));
+        long[] far = {Integer.MIN_VALUE, -1, 20, 21, 35, 200, 201, Integer.MAX_VALUE, Integer.MAX_VALUE - 1};
+        Set<String> thrown = new TreeSet<>();
+        for (int run = 0; run < 400; run++) {
+            ClearingWaves x = new ClearingWaves();
+            x.houses(2 + run % 4);
+            for (int k = 0; k < 511; k++) {
+                Method call = calls.get(random.nextInt(calls.size()));
+                Class<?>[] types = call.getParameterTypes();
+                Object[] args = new Object[types.length];
+                for (int m = 0; m < args.length; m++) {
+                    long v = random.nextInt(8) == 0 ? far[random.nextInt(far.length)] : random.nextInt(7);
+                    args[m] = types[m] == int.class ? (Object) (int) v
+                        : (Object) (random.nextInt(8) == 0 ? random.nextLong() : v);
+                }
+                try {
+                    call.invoke(x, args);
+                } catch (java.lang.reflect.InvocationTargetException e) {
+                    thrown.add(call.getName() + ": " + e.getCause());
+                }
+            }
+        }
+        check("what calls throw", thrown, Set.of());
+    }
+
     private static long madeBy(Runnable body) {
         com.sun.management.ThreadMXBean bean = (com.sun.management.ThreadMXBean) ManagementFactory.getThreadMXBean();
         long id = Thread.currentThread().getId();
@@ -250,6 +284,7 @@ public final class FaceTest {
         face();
         words();
         sizes();
+        neverThrows();
         room();
         System.out.println(passed + " passed, " + failed + " failed");
         System.exit(failed == 0 ? 0 : 1);
