@@ -297,6 +297,7 @@ public final class PromiseTest {
             due("fault of " + texts[k], readText(x, texts[k]), -100 - faults[k]);
             due("empty behind " + texts[k], x.count(5), 0);
         }
+        x = of(3, 10, 10, "a=3;a>b=5;b>>c=7");
         readText(x, "b=9;c=9;a>c=9;a=1;");
         due("a text with a fault does nothing", x.count(3), 3);
         due("a holds", x.fails(), 2 + 1);
