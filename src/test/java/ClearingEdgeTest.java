@@ -145,6 +145,28 @@ public final class ClearingEdgeTest {
             Edge.same("a", parts(y, 0), "0/1 1/1 1/1");
             Edge.same("b", parts(y, 1), "0/1 0/1 1/1");
         });
+        Edge.test(15, "a RING that loses what it pays in a CLASS ahead pays nothing, or just what comes from others", () -> {
+            ClearingWaves x = Edge.told(3, 10, 10, "b>>c=2;c>a=1;c>>>b=2");
+            Edge.same("b", parts(x, 1), "1/1 0/1 1/1");
+            Edge.same("c", parts(x, 2), "0/1 1/1 0/1");
+            ClearingWaves y = Edge.told(3, 10, 10, "a>c=4;c>>a=6;c>b=2");
+            Edge.same("a", parts(y, 0), "0/1 1/1 1/1");
+            Edge.same("c", parts(y, 2), "0/1 0/1 1/1");
+            ClearingWaves z = Edge.told(4, 10, 10, "a>>b=2;a>d=2;b>a=1;b>>a=1;d>>a=1");
+            Edge.same("a has 1 from d", parts(z, 0), "1/2 0/1 1/1");
+            Edge.same("b", parts(z, 1), "0/1 0/1 1/1");
+            ClearingWaves w = Edge.told(3, 10, 9, "a>b=2;a>>c=6;c>a=4");
+            Edge.same("a", parts(w, 0), "0/1 0/1 1/1");
+            Edge.same("c", parts(w, 2), "0/1 1/1 1/1");
+        });
+        Edge.test(15, "RINGS that lose and get something, class by class", () -> {
+            ClearingWaves x = Edge.told(5, 10, 9, "d=1;a>>b=3;a>>>e=3;b>a=2;b>d=3;c>>b=3;d>>a=2;d>>>e=3;e>c=1");
+            Edge.same("a", parts(x, 0), "1/1 69081/70585 0/1");
+            Edge.same("b", parts(x, 1), "8910/14117 1/1 1/1");
+            Edge.same("c", parts(x, 2), "1/1 13419/70585 1/1");
+            Edge.same("d", parts(x, 3), "1/1 1/1 9940/42351");
+            Edge.same("e", parts(x, 4), "8946/14117 1/1 1/1");
+        });
         Edge.test(15, "a PART is never above 1, nor below 0", () -> {
             ClearingWaves x = fiveWaves();
             for (int house = 0; house < 5; house++) {
@@ -311,6 +333,23 @@ public final class ClearingEdgeTest {
             ClearingWaves y = Edge.told(2, 10, 10, "a=7;a>b=4;a>>b=6;a>>>b=5");
             Edge.fraction("0, 3 and 5", y.lacks(1, 0, 0), y.lacks(1, 0, 1), 8, 1);
         });
+        Edge.test(22, "each of five HOUSES from each: all of CLASS 1 and 2, and 2 by 3 of CLASS 0", () -> {
+            ClearingWaves x = Edge.told(5, 10, 10, "");
+            for (int from = 0; from < 4; from++) {
+                x.cash(from, 1);
+                x.owe(from, 4, 0, 3);
+                x.owe(from, 3 - from, 1, 1 + from);
+                x.owe(from, from < 2 ? from + 1 : 4, 2, 7 + from);
+            }
+            Edge.due("four fail", x.fails(), 15);
+            int[] due = {0, 0, 0, 4, 0, 7, 0, 3, 0, 0, 0, 10, 0, 0, 0, 1, 0, 0, 0, 0, 2, 2, 11, 12, 0};
+            for (int k = 0; k < 25; k++) {
+                if (k / 5 != k % 5) {
+                    String what = k / 5 + " from " + k % 5;
+                    Edge.fraction(what, x.lacks(k / 5, k % 5, 0), x.lacks(k / 5, k % 5, 1), due[k], 1);
+                }
+            }
+        });
         for (int h = 0; h < 3; h++) {
             int house = h;
             Edge.refused(22, "house " + h + " from itself", NO, x -> x.lacks(house, house, 0));
@@ -419,6 +458,16 @@ public final class ClearingEdgeTest {
             Edge.due("k 4 of one that holds", x.chain(2, 4), STATE);
             Edge.due("k 0 of one that holds", x.chain(2, 0), STATE);
             Edge.due("k 1 behind a chain of one", x.chain(0, 1), NOT_SO);
+        });
+        Edge.test(25, "no HOUSE FAILS: STATE of each", () -> {
+            ClearingWaves x = Edge.told(5, 0, 0, "a=5;a>b=5;e=1");
+            for (int house = 0; house < 5; house++) {
+                Edge.due("chain", x.chain(house, 0), STATE);
+                Edge.due("chain", x.chain(house, 4), STATE);
+                Edge.due("cause", x.cause(house), STATE);
+                Edge.due("root", x.root(house), STATE);
+                Edge.due("pulls", x.pulls(house), 0);
+            }
         });
         Edge.outside(25, "house", 3, NONE, (x, v) -> x.chain(v, 0));
         Edge.outside(25, "k", 5, NONE, (x, v) -> x.chain(1, v));

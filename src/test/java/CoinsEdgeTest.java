@@ -72,7 +72,12 @@ public final class CoinsEdgeTest {
         Edge.test(29, "no STEP where none FAILS: the one that changes nothing isn't counted", () -> {
             Edge.due("no debts", Edge.told(5, 0, 0, "").steps(), 0);
             Edge.due("each has enough", Edge.told(3, 0, 0, "a=5;a>b=5;b>c=5").steps(), 0);
-            Edge.due("one", Edge.told(2, 10, 10, "a=4;a>b=5").steps(), 1);
+            ClearingWaves x = Edge.told(2, 10, 10, "a=4;a>b=5");
+            Edge.due("one", x.steps(), 1);
+            x.cash(0, 3);
+            Edge.due("one, counted anew", x.steps(), 1);
+            x.cash(0, 5);
+            Edge.due("none", x.steps(), 0);
         });
         Edge.test(29, "all HOUSES at once, by what was PAID in the STEP before", () -> {
             Edge.due("from the first on", Edge.told(5, 10, 10, "a>b=1;b>c=1;c>d=1;d>e=1").steps(), 4);

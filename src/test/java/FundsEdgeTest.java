@@ -39,6 +39,7 @@ public final class FundsEdgeTest {
             firstRing("the second place, though longer", 4, "a>b=1;b>c=1;c>d=1;d>a=1;a>d=1", "0 1 2 3 -5");
             firstRing("it ends", 3, "a>b=1;b>a=1;b>c=1;c>a=1", "0 1 -5 -5 -5");
             firstRing("it ends in the third place", 4, "a>b=1;b>c=1;c>a=1;c>d=1;d>a=1", "0 1 2 -5 -5");
+            firstRing("unlike houses: not 0 1 2 1 3", 4, "a>b=1;b>c=1;c>b=1;b>d=1;d>a=1", "0 1 3 -5 -5");
             firstRing("a way that leads nowhere", 4, "a>b=1;b>c=1;a>d=1;d>a=1", "0 3 -5 -5 -5");
             firstRing("a way that leads to a ring without the first", 4, "a>b=1;b>c=1;c>b=1", "1 2 -5 -5 -5");
         });

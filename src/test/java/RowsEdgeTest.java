@@ -447,10 +447,11 @@ public final class RowsEdgeTest {
             x.feed('=');
             x.row(1, 2);
             x.set(0, 5, -5);
-            x.cash(0, 200);
+            x.cash(0, 2);
             x.spell();
             String later = Edge.page(x);
-            Edge.due("another text", page.equals(later) ? 1 : 0, 0);
+            Edge.same("another text", later, "a1:37/10 b2:433/100");
+            Edge.same("the one before", page, "a1:47/10 b2:523/100");
             Edge.due("undo", x.undo(), 3);
             Edge.due("tape", x.count(5), 6);
             Edge.same("paper", Edge.page(x), later);
