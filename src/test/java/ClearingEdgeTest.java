@@ -158,6 +158,9 @@ public final class ClearingEdgeTest {
             ClearingWaves w = Edge.told(3, 10, 9, "a>b=2;a>>c=6;c>a=4");
             Edge.same("a", parts(w, 0), "0/1 0/1 1/1");
             Edge.same("c", parts(w, 2), "0/1 1/1 1/1");
+            ClearingWaves v = Edge.told(3, 9, 1, "c=3;a>>c=6;c>>a=9;c>b=3");
+            Edge.same("a gets a tenth of nothing", parts(v, 0), "1/1 0/1 1/1");
+            Edge.same("c has 27 tenths", parts(v, 2), "9/10 0/1 1/1");
         });
         Edge.test(15, "RINGS that lose and get something, class by class", () -> {
             ClearingWaves x = Edge.told(5, 10, 9, "d=1;a>>b=3;a>>>e=3;b>a=2;b>d=3;c>>b=3;d>>a=2;d>>>e=3;e>c=1");
